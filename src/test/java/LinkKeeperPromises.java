@@ -16,6 +16,7 @@ public final class LinkKeeperPromises {
         promise3RefusedLinkCountsAsMoment();
         promise4Change();
         promise4ChangeWhereAFieldHadBoth();
+        promise4ChangeToAndFro();
         promise4ChangeRefused();
         promise5Broken();
         promise6RepairGoesToHost();
@@ -281,6 +282,15 @@ public final class LinkKeeperPromises {
         linkAll("room again", x, new int[][] {{1, 4, 1}, {2, 4, 1}});
         due("full again", x.link(1, 4, 2), 0);
         dueGoes("at the end", x, 2, 4, 30, 12, 1);
+    }
+
+    private static void promise4ChangeToAndFro() {
+        LinkKeeper x = withRecords(1);
+        linkAll("to and fro", x, new int[][] {{1, 4, 10}, {1, 4, 20}});
+        due("the later one is gone", x.change(20, 10), 1);
+        due("only one goes on", x.change(10, 30), 1);
+        due("and back: the gone one is no matter", x.change(30, 10), 1);
+        dueGoes("to and fro", x, 1, 4, 10);
     }
 
     private static void promise4ChangeRefused() {
@@ -577,6 +587,8 @@ public final class LinkKeeperPromises {
         due("two parts are left", x.delete(4), -2);
         due("a link", x.link(4, 4, 10), 1);
         dueTimes("each was a moment", x, 4, 6, 18);
+        linkAll("refused", x, new int[][] {{7, 0, 6}});
+        due("the last record is a part", x.delete(6), -1);
     }
 
     private static void promise12Times() {
@@ -666,6 +678,15 @@ public final class LinkKeeperPromises {
         due("neither host nor part", x.orphan(0), 6);
         due("delete", x.delete(4), 1);
         due("the link went with its record", x.orphan(0), 5);
+        for (int field = 4; field <= 9; field++) {
+            linkAll("orphan", x, new int[][] {{1, field, 5}});
+            due("a heading of that number, field " + field, x.orphan(0), 5);
+        }
+        for (int field = 0; field <= 3; field++) {
+            LinkKeeper y = withRecords(2);
+            linkAll("orphan", y, new int[][] {{1, field, 2}});
+            due("no orphan by field " + field, y.orphan(0), 0);
+        }
     }
 
     private static void promise14House() {
